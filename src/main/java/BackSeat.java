@@ -754,7 +754,7 @@ public final class BackSeat {
         }
 
         int seatOf(int one) {
-            return has(one) ? itemAt(seats, one) : NONE;
+            return one >= 0 && one < size && one < seats.length ? seats[one] : NONE;
         }
 
         boolean sits(int one) {
@@ -762,7 +762,7 @@ public final class BackSeat {
         }
 
         int sitterAt(int seat) {
-            return seat >= 0 && seat < SEATS ? itemAt(sitters, seat) : NONE;
+            return seat >= 0 && seat < sitters.length ? sitters[seat] : NONE;
         }
 
         /** Whether a SEAT is free, or one's own. */
