@@ -1457,7 +1457,7 @@ public final class BackSeat {
         }
 
         private int byteAt(int i) {
-            return i >= 0 && i < size ? itemAt(tape, i) : NONE;
+            return i >= 0 && i < size && i < tape.length ? tape[i] : NONE;
         }
 
         private static boolean isBlank(int b) {
