@@ -175,6 +175,9 @@ public final class BestBoundsTest extends Bounds {
         last.sit(6, NONE);
         last.sit(0, 1);
         due("7 and 0", last.watch(0), 70);
+        BackSeat first = coach(one(TOM, 0, 2), one(TEACHER, 0, 0), one(CHILD, 0, 1));
+        due("0 and 2", first.watch(0), 2);
+        due("0 and 2: DIN", first.watch(1), 5);
     }
 
     private static void watchNoneOfTheTeachers() {
@@ -252,7 +255,7 @@ public final class BestBoundsTest extends Bounds {
         row(x, 0, 0, 2, 0, 1, 8, 9, 10);
         due("hat(0, 0)", x.hat(0, 0), 5);
         due("hat(0, 1)", x.hat(0, 1), 312);
-        due("in thought", x.told(2, 5), 11);
+        due("told(2, 5) stays", x.told(2, 5), 11);
         row(x, 0, 0, 1, 2, 9, 10);
         x.sit(0, NONE);
         due("others left out: hat(0, 1)", x.hat(0, 1), 21);
@@ -364,6 +367,9 @@ public final class BestBoundsTest extends Bounds {
         due("JOY of the others: how much", y.hat(0, 0), 12);
         row(y, 0, 0, 2, 1, 8, 1);
         due("JOY of the others, told the other way", y.hat(0, 1), 21);
+        BackSeat z = coach(one(CHILD, 0, 8), one(CHILD, 0, 9));
+        due("each BESIDE the other, on changed SEATS", row(z, 0, 0, 0, 1, 9, 8).hat(0, 0), 2);
+        due("each BESIDE the other: the order", z.hat(0, 1), 12);
         due("below 0", row(joying("0-9", 0), 0, 0, 0, 5).hat(0, 0), -9);
         due("below 0: the order", row(joying("0-9", 0), 0, 0, 0, 5).hat(0, 1), 1);
     }

@@ -255,12 +255,13 @@ public final class MileBoundsTest extends Bounds {
         due("SEAT 0 is as bad: as now", turning(turns, 0, 4).front(5, 1), 5);
         due("0 is taken: SEAT 1", turning(turns, 0, 4, 0).front(5, 1), 5);
         BackSeat x = turning("9 * (row = 5) + 9 * (row = 0) * (column < 3)", 0, 20, 0, 1, 2);
-        due("SEAT 3 is the last", x.front(5, 1), 15);
+        due("SEAT 3 is the last", x.front(5, 0), 0);
+        due("SEAT 3 is the last: how often", x.front(5, 1), 15);
         x.sit(3, 3);
         due("SEAT 2 is the first free one", x.front(5, 0), NONE);
-        x.sit(2, 2);
-        due("ROW 0 is full", x.front(5, 0), NONE);
-        due("ROW 0 is full: as now", x.front(5, 1), 5 + 10);
+        BackSeat full = turning("9 * (row = 5) + 9 * (row = 0) * (column < 3)", 0, 20, 0, 1, 2, 3);
+        due("ROW 0 is full", full.front(5, 0), NONE);
+        due("ROW 0 is full: as now", full.front(5, 1), 20);
     }
 
     private static void frontFromRow0() {
@@ -346,6 +347,8 @@ public final class MileBoundsTest extends Bounds {
         BackSeat z = turning("60", 50, 8);
         due("SICK ahead of getting off", z.stop(1, 0), NONE);
         due("SICK ahead of getting off: as without", z.stop(1, 1), 1);
+        due("0 is not less than 0", turning("1", 0, 8).stop(5, 0), NONE);
+        due("0 is not less than 0: as without", turning("1", 0, 8).stop(5, 1), 5);
     }
 
     private static void stopOnce() {

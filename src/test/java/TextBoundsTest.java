@@ -232,6 +232,8 @@ public final class TextBoundsTest extends Bounds {
         hasFaultInE("99999", 0);
         hasFaultInE("1+12345", 2);
         hasFaultInE("1+12345678901234567890", 2);
+        hasFaultInE("- 12345 1", 2);
+        hasFaultInE("(12345 1)", 1);
         hasFaultInE("1234 5", 5);
         hasFaultInE("5/", 1);
         hasFaultInE("5:", 1);
@@ -261,6 +263,10 @@ public final class TextBoundsTest extends Bounds {
             int place = isSum || b == ';' ? 10 : 9;
             due("byte " + b + " between", read(new BackSeat(), text), isBlank ? 1 : -100 - place);
         }
+        hasFaultInE("- # 1", 2);
+        hasFaultInE("( # 1)", 2);
+        hasFaultInE("not # 1", 4);
+        hasFaultInE("1 - # 1", 4);
         hasFault("\u0000" + SHORT, 0);
         hasFault("\u00ff" + SHORT, 0);
         hasFault(SHORT + "#", 24);
@@ -415,17 +421,17 @@ public final class TextBoundsTest extends Bounds {
         says(8, "beside: how many sit BESIDE one; friend: 1, if one's FRIEND does, else 0.");
         value("beside", 2);
         value("friend", 1);
-        BackSeat x = rule(coach(one(CHILD, 0, 8), one(CHILD, 0, 9)), "sounds beside;turns friend;joys 0;");
-        due("one BESIDE", x.told(0, 6), 1);
-        due("no FRIEND", x.told(0, 7), 0);
+        BackSeat x = rule(coach(one(CHILD, 0, 8), one(CHILD, 0, 9)), "sounds 5+beside;turns 5+friend;joys 0;");
+        due("one BESIDE", x.told(0, 6), 6);
+        due("no FRIEND", x.told(0, 7), 5);
         x.set(3, 1, 0);
-        due("it is the other's FRIEND", x.told(0, 7), 0);
-        due("one's own FRIEND", x.told(1, 7), 1);
+        due("it is the other's FRIEND", x.told(0, 7), 5);
+        due("one's own FRIEND", x.told(1, 7), 6);
         x.sit(1, 10);
-        due("none BESIDE", x.told(0, 6), 0);
-        due("the FRIEND in the same ROW", x.told(1, 7), 0);
-        x.sit(1, NONE);
-        due("the FRIEND of one who stands", x.told(1, 7), 0);
+        due("none BESIDE", x.told(0, 6), 5);
+        due("the FRIEND in the same ROW", x.told(1, 7), 5);
+        x.sit(0, NONE);
+        due("a FRIEND who stands", x.told(1, 7), 5);
     }
 
     // ---- values
@@ -467,6 +473,12 @@ public final class TextBoundsTest extends Bounds {
         value("5 = 6", 0);
         value("5 = 4", 0);
         value("(5 = 5) + (4 < 5) + 7", 9);
+        value("5 + (7 or 8) + (7 and 8) + (not 0)", 8);
+        value("5 + (0 or 0)", 5);
+        value("5 + (7 and 0)", 5);
+        value("5 + (not 7)", 5);
+        value("5 + (5 < 5)", 5);
+        value("5 + (5 = 6)", 5);
     }
 
     // ---- FAULTS
@@ -512,7 +524,16 @@ public final class TextBoundsTest extends Bounds {
             hasFaultInE("1 " + word, 2);
             hasFaultInE("1 + " + word, 4);
         }
+        for (String word : new String[] {"mow", "dolumn", "nile", "lumber", "reside", "griend", "bounds", "burns", "boys",
+            "ar", "und", "hot", "raw", "rot"}) {
+            hasFaultInE(word, 0);
+        }
+        hasFaultInE("- x 1", 2);
+        hasFaultInE("( x 1)", 2);
+        hasFaultInE("not x 1", 4);
+        hasFaultInE("1 - x 1", 4);
         hasFault("soundz 1;turns 1;joys 1;", 0);
+        hasFault("kounds 1;turns 1;joys 1;", 0);
         hasFault("sounds 1;turn 1;joys 1;", 9);
         hasFault("sounds 1;turns 1;joy 1;", 17);
     }
