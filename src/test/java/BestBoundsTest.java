@@ -370,6 +370,9 @@ public final class BestBoundsTest extends Bounds {
         BackSeat z = coach(one(CHILD, 0, 8), one(CHILD, 0, 9));
         due("each BESIDE the other, on changed SEATS", row(z, 0, 0, 0, 1, 9, 8).hat(0, 0), 2);
         due("each BESIDE the other: the order", z.hat(0, 1), 12);
+        BackSeat w = joying("beside + number * (column = 0)", 8, 9);
+        due("they change SEATS", row(w, 0, 0, 0, 1, 8, 9).hat(0, 1), 21);
+        due("they change SEATS, each BESIDE the other", w.hat(0, 0), 1 + 2);
         due("below 0", row(joying("0-9", 0), 0, 0, 0, 5).hat(0, 0), -9);
         due("below 0: the order", row(joying("0-9", 0), 0, 0, 0, 5).hat(0, 1), 1);
     }
